@@ -751,7 +751,7 @@ public final class MeltingHeaps {
             int left = one.size + other.size;
             while (left > 0) {
                 int compared = i >= one.size ? 1 : j >= other.size ? -1 : Integer.compare(one.keyAt(i), other.keyAt(j));
-                if (ofOne != compared <= 0) {
+                if (ofOne != (compared <= 0)) {
                     endRun(run);
                     run = 0;
                     ofOne = compared <= 0;

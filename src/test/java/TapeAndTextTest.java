@@ -112,6 +112,12 @@ public final class TapeAndTextTest {
         Check.dueFault("put 0 5;", 1, 0);
         Check.dueFault("sett 0 5;", 1, 0);
         Check.dueFault("se", 1, 0);
+        Check.dueFault("setz 0;", 1, 0);
+        Check.dueFault("seta 0;", 1, 0);
+        Check.dueFault("set{ 0;", 1, 3);
+        Check.dueFault("set` 0;", 1, 3);
+        Check.dueFault("set 0 1/2;", 1, 7);
+        Check.dueFault("set 0 1:2;", 1, 7);
         Check.dueFault("Set 0 5;", 1, 0);
         Check.dueFault(" ;", 1, 1);
         Check.dueFault("set 0 5;;", 1, 8);

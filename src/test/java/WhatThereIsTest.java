@@ -40,6 +40,9 @@ public final class WhatThereIsTest {
                 Check.due("set(" + set + ", " + what + ")", x.set(set, what), -1);
             }
         }
+        x = Check.with("set 3 0 9999;mark 3 0 9999;set 4 0;mark 4 0 0;");
+        Check.due("MARKED ones, the least and greatest KEY among them", x.set(3, 3), 2);
+        Check.due("MARKED ones in all", x.count(3), 3);
         x = Check.with("set 3 9940-9999;");
         Check.due("all KEYS of a full one together", x.set(3, 10), 60 * (9940 + 9999) / 2);
         x.drop(3, 9950);

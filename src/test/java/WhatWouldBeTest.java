@@ -9,6 +9,7 @@ public final class WhatWouldBeTest {
         cheapest();
         merged();
         would();
+        wouldOfFullOne();
         halves();
         Check.end("WhatWouldBeTest");
     }
@@ -98,7 +99,7 @@ public final class WhatWouldBeTest {
 
     private static void would() {
         // 6(1(0, 4(2(, 3), 5)),): without 2 it is 6(1(0, 4(3, 5)),)
-        MeltingHeaps x = Check.with("set 0 0-6;set 1 7;set 2 0-59;");
+        MeltingHeaps x = Check.with("set 0 0-6;set 1 7;");
         Check.due("would(0, 2, gone)", x.would(0, 2, true), 4);
         Check.due("would(0, 3, gone)", x.would(0, 3, true), 4);
         Check.due("would(0, 5, gone)", x.would(0, 5, true), 5);
@@ -118,12 +119,26 @@ public final class WhatWouldBeTest {
         Check.due("would(0, 10000)", x.would(0, 10000, false), -1);
         Check.due("would(0, MAX)", x.would(0, MAX, false), -1);
         Check.due("nothing is done", Check.told(x, 0) + "|" + Check.told(x, 1) + "|" + x.count(4), "0-6|7|0");
-        // a 61st is asked about alike; the least PRIORITY hangs below all
-        x = Check.with("set 2 0-59;");
-        int high = x.set(2, 5);
-        int more = x.would(2, 60, false);
-        Check.due("would of a full one", more == high || more == high + 1, true);
-        Check.due("would(2, 60, gone)", x.would(2, 60, true), -1);
+    }
+
+    /** KEYS 55 apart from 1 on hang each right of the one before: the deepest trees, and a 61st KEY is asked about alike. */
+    private static void wouldOfFullOne() {
+        MeltingHeaps x = new MeltingHeaps();
+        for (int k = 0; k < 60; k++) {
+            x.put(2, 1 + 55 * k);
+        }
+        Check.due("HIGH", x.set(2, 5), 60);
+        Check.due("all DEPTHS", x.set(2, 8), 59 * 60 / 2);
+        Check.due("DEPTH of the last", x.of(2, 1 + 55 * 59, 2), 59);
+        Check.due("below the first", x.of(2, 1, 7), 59);
+        Check.due("from end to end", x.far(2, 1, 1 + 55 * 59), 59);
+        Check.due("a 61st", x.would(2, 1 + 55 * 60, false), 61);
+        Check.due("the last gone", x.would(2, 1 + 55 * 59, true), 59);
+        Check.due("the first gone", x.would(2, 1, true), 59);
+        Check.due("not there", x.would(2, 2, true), -1);
+        Check.due("nothing is done", x.set(2, 0), 60);
+        x = Check.with("set 0 0-59;set 1 0-59;set 2 0-59;set 3 0-59;");
+        Check.due("a 241st", x.would(7, 5, false), 1);
     }
 
     private static void halves() {
