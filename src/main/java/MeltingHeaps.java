@@ -555,8 +555,11 @@ public final class MeltingHeaps {
                 }
                 entries[to] = entry;
             }
+            // TWINS were there already: of them alone this SET gets no KEY, and its FINGER stays
+            if (unlike != size) {
+                finger = NONE;
+            }
             size = Math.min(unlike, ROOM);
-            finger = NONE;
             other.empty();
         }
 

@@ -14,6 +14,7 @@ public final class ActsTest {
         mark();
         seek();
         fingers();
+        fingersOverTwins();
         undo();
         undoEveryAct();
         Check.end("ActsTest");
@@ -283,10 +284,40 @@ public final class ActsTest {
         x.shift(0, 7);
         x.shift(1, -10);
         dueFingers("shift", x, 10, 0, 15, 10);
-        // all KEYS of SET 3 go to SET 1, so it gets some, though they are there already
-        x = fingered();
-        x.melt(1, 3);
-        dueFingers("melt of twins alone", x, 3, -1, 15, -1);
+    }
+
+    /** A SET gets no KEY by TWINS alone, so its FINGER stays; that of the SET that loses them does not. */
+    private static void fingersOverTwins() {
+        MeltingHeaps x = fingered();
+        Check.due("melt of twins alone", x.melt(1, 3), 2);
+        dueFingers("melt of twins alone", x, 3, 10, 15, -1);
+        Check.due("seek from the finger that stayed", x.seek(1, 20), 1);
+        x.undo();
+        x.undo();
+        dueFingers("undone", x, 3, 10, 15, 10);
+        Check.due("melt of a twin and others", x.melt(3, 1), 2);
+        dueFingers("melt of a twin and others", x, 3, -1, 15, -1);
+
+        x = Check.with("set 0 0-6;set 1 1 2 5;mark 1 2 2;set 2 0-6;set 3 4-7;");
+        x.seek(0, 4);
+        x.melt(0, 1);
+        Check.due("the mark of a twin comes", Check.told(x, 0), "0 1 2* 3-6");
+        dueFingers("a marked twin", x, 4, -1, -1, -1);
+        x.seek(2, 6);
+        x.melt(0, 2);
+        dueFingers("twins of all", x, 4, -1, -1, -1);
+        x.melt(0, 3);
+        dueFingers("twins and one more", x, -1, -1, -1, -1);
+
+        x = Check.with("set 0 0-59;set 1 0-59;");
+        x.seek(0, 59);
+        x.melt(0, 1);
+        dueFingers("twins of a full one", x, 59, -1);
+        x.melt(1, 0);
+        dueFingers("all to an empty one", x, -1, -1);
+        x.put(0, 7);
+        x.melt(1, 0);
+        dueFingers("no finger comes by twins", x, -1, -1);
     }
 
     private static void undo() {

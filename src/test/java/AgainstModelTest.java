@@ -34,6 +34,8 @@ public final class AgainstModelTest {
             int dice = random.nextInt(100);
             if (dice < 6) {
                 feedText();
+            } else if (dice < 8) {
+                meltTwins();
             } else if (dice < 50) {
                 act();
             } else {
@@ -103,6 +105,24 @@ public final class AgainstModelTest {
             default:
                 due("undo()", x.undo(), model.undo()); break;
         }
+    }
+
+    /** A SET gets KEYS that another one has, mostly, and is melted with it: acts by chance seldom make TWINS alone. */
+    private void meltTwins() {
+        int a = set();
+        int b = set();
+        int number = key();
+        due("seek(" + a + ", " + number + ")", x.seek(a, number), model.seek(a, number));
+        for (int n = random.nextInt(4); n > 0; n--) {
+            int k = keyOf(a);
+            due("put(" + b + ", " + k + ")", x.put(b, k), model.put(b, k));
+        }
+        boolean back = random.nextInt(4) == 0;
+        int to = back ? b : a;
+        int of = back ? a : b;
+        due("melt(" + to + ", " + of + ")", x.melt(to, of), model.melt(to, of));
+        due("set(" + to + ", 6)", x.set(to, 6), model.set(to, 6));
+        due("set(" + of + ", 6)", x.set(of, 6), model.set(of, 6));
     }
 
     /** Mostly a KEY that the SET has. */

@@ -318,15 +318,18 @@ final class Model {
         return get(set).size();
     }
 
-    /** KEYS go as they are; both FINGERS are none then. */
+    /** KEYS go as they are; a SET that has other KEYS by that has no FINGER then. */
     private int go(TreeMap<Integer, Boolean> keys, int set, int to) {
         TreeMap<Integer, Boolean> going = new TreeMap<>(keys);
+        TreeSet<Integer> before = new TreeSet<>(get(to).keySet());
         for (int key : going.keySet()) {
             get(set).remove(key);
             get(to).merge(key, going.get(key), (a, b) -> a || b);
         }
         now.fingers[set] = null;
-        now.fingers[to] = null;
+        if (!before.equals(get(to).keySet())) {
+            now.fingers[to] = null;
+        }
         return going.size();
     }
 
