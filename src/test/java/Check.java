@@ -4,15 +4,21 @@ import java.nio.charset.StandardCharsets;
 final class Check {
     private static int wrong = 0;
     private static int asked = 0;
+    private static String about = "";
 
     private Check() {
+    }
+
+    /** What the next answers are about: it is told with each that is wrong. */
+    static void about(String what) {
+        about = what + ": ";
     }
 
     static void due(String what, long got, long want) {
         asked++;
         if (got != want) {
             wrong++;
-            System.out.println(what + " answered " + got + ", due is " + want);
+            System.out.println(about + what + " answered " + got + ", due is " + want);
         }
     }
 
@@ -24,7 +30,7 @@ final class Check {
         asked++;
         if (!got.equals(want)) {
             wrong++;
-            System.out.println(what + " answered '" + got + "', due is '" + want + "'");
+            System.out.println(about + what + " answered '" + got + "', due is '" + want + "'");
         }
     }
 
@@ -60,6 +66,29 @@ final class Check {
             due("text " + text, x.fault(0), 0);
         }
         return x;
+    }
+
+    /** A LINE that puts n KEYS, from one on and so far apart, to a SET. */
+    static String line(int set, int first, int apart, int n) {
+        StringBuilder s = new StringBuilder("set ").append(set);
+        for (int k = 0; k < n; k++) {
+            s.append(' ').append(first + apart * k);
+        }
+        return s.append(';').toString();
+    }
+
+    /** What an object is, but for KEYS and marks one by one; asking for it changes nothing. */
+    static String print(MeltingHeaps x) {
+        StringBuilder s = new StringBuilder();
+        for (int set = 0; set < 8; set++) {
+            for (int what : new int[] {0, 10, 8, 3, 6}) {
+                s.append(x.set(set, what)).append(' ');
+            }
+        }
+        for (int what : new int[] {4, 5, 7}) {
+            s.append(x.count(what)).append(' ');
+        }
+        return s.append(x.fault(0)).append(' ').append(x.fault(1)).toString();
     }
 
     static String told(MeltingHeaps x, int set) {
