@@ -234,6 +234,9 @@ public final class AnswerEdgesTest {
         }
         x = Check.with("set 0 0-29;set 1 30-59;set 2 60-89;set 3 90-119;set 4 120-149;set 5 150-179;set 6 180-209;set 7 210-239;");
         Check.due("240 unlike ones", x.count(2), 240);
+        x.merged(100);
+        Check.due("240 unlike ones, some having been asked for", x.count(2), 240);
+        Check.due("240 unlike ones, asked again", x.count(2), 240);
         Check.due("eight SETS", x.count(1), 8);
     }
 
@@ -455,12 +458,13 @@ public final class AnswerEdgesTest {
             // but for the one ACT that could be UNDONE
             x.seek(7, 0);
             x.undo();
+            Check.due("how long what was TOLD is", x.count(7), 14);
+            Check.due("its bytes", x.octet(5) + " " + x.octet(7) + " " + x.octet(13), "45 42 57");
             Check.due("KEYS", x.count(0), 61);
             Check.due("marks", Check.told(x, 0), "0-6 7-9* 10-59");
             Check.due("FINGER", x.set(0, 6), 30);
             Check.due("FAULT", x.fault(0), 2);
             Check.due("place", x.fault(1), 4);
-            Check.due("what was TOLD", x.count(7), 14);
             Check.due("the tape", x.count(5), 800);
             Check.due("its bytes", x.text(), 1);
             Check.due("its KEY", x.key(1, 0), 5);

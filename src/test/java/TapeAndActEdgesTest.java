@@ -30,6 +30,7 @@ public final class TapeAndActEdgesTest {
         mark();
         seek();
         undo();
+        everyActIsUndone();
         undoOfNone();
         for (int promise = 1; promise <= 15; promise++) {
             Sentences.dueAll("Promise " + promise);
@@ -367,6 +368,56 @@ public final class TapeAndActEdgesTest {
         }
         Check.due("asking or telling is no ACT", x.tell(0), 4);
         Check.due("count(4)", x.count(4), 0);
+    }
+
+    private interface Act {
+        int on(MeltingHeaps x);
+    }
+
+    /** All SETS as TOLD, and what else there is. */
+    private static String all(MeltingHeaps x) {
+        StringBuilder s = new StringBuilder();
+        for (int set = 0; set < 8; set++) {
+            s.append(Check.told(x, set)).append('|');
+        }
+        return s.append(Check.print(x)).toString();
+    }
+
+    /** SEEKS go ahead: were the state before an ACT not kept, an older one would come back. */
+    private static void dueUndone(String name, Act act) {
+        MeltingHeaps x = Check.with("set 0 1-9;mark 0 3 5;set 1 20 30;mark 1 30 30;set 2 2 4;mark 2 4 4;");
+        x.seek(0, 4);
+        x.seek(1, 30);
+        x.seek(2, 2);
+        String before = all(x);
+        Check.due(name + " is not REFUSED", act.on(x) >= 0, true);
+        Check.due(name + " is done", all(x).equals(before), false);
+        Check.due("undo of " + name, x.undo(), 3);
+        Check.due("all behind undo of " + name, all(x), before);
+        Check.due("undo of the SEEK before", x.undo(), 2);
+        Check.due("FINGER of the SEEK before", x.set(2, 6), -1);
+        Check.due("FINGER of that before", x.set(1, 6), 30);
+    }
+
+    private static void everyActIsUndone() {
+        Sentences.hold("Promise 15", "The latest ACT is UNDONE");
+        dueUndone("put", x -> x.put(0, 0));
+        dueUndone("put to an empty one", x -> x.put(7, 9999));
+        dueUndone("drop", x -> x.drop(0, 4));
+        dueUndone("cut", x -> x.cut(0, 4, 7));
+        dueUndone("cut of all", x -> x.cut(0, 0, 7));
+        dueUndone("join", x -> x.join(0, 1));
+        dueUndone("join to an empty one", x -> x.join(7, 0));
+        dueUndone("melt", x -> x.melt(1, 0));
+        dueUndone("melt of TWINS alone", x -> x.melt(0, 2));
+        dueUndone("shift", x -> x.shift(0, 9990));
+        dueUndone("shift down", x -> x.shift(0, -1));
+        dueUndone("move", x -> x.move(0, 4, 9999, 1));
+        dueUndone("move of all", x -> x.move(0, 0, 9999, 7));
+        dueUndone("mark", x -> x.mark(0, 0, 9999, false));
+        dueUndone("mark not", x -> x.mark(0, 4, 4, true));
+        dueUndone("seek", x -> x.seek(0, 9));
+        dueUndone("seek in another SET", x -> x.seek(1, 20));
     }
 
     private static void undoOfNone() {

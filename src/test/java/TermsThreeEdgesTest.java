@@ -97,6 +97,17 @@ public final class TermsThreeEdgesTest {
         for (String word : new String[] {"a", "z", "az", "sets", "se", "marks", "cuts", "joint", "melts", "shifts", "moves", "undo"}) {
             Check.dueFault(word + " 0 1;", 1, 0);
         }
+        // each letter of a word counts, and one more at either end makes another word
+        for (String word : new String[] {"set", "mark", "cut", "join", "melt", "shift", "move"}) {
+            for (int i = 0; i < word.length(); i++) {
+                Check.dueFault(word.substring(0, i) + "z" + word.substring(i + 1) + " 0 1;", 1, 0);
+                Check.dueFault(word.substring(0, i) + word.substring(i + 1) + " 0 1;", 1, 0);
+            }
+            for (String letter : new String[] {"a", "z"}) {
+                Check.dueFault(letter + word + " 0 1;", 1, 0);
+                Check.dueFault(word + letter + " 0 1;", 1, 0);
+            }
+        }
         // the bytes right beside a and z, and capitals, are no letters
         Check.dueFault("set` 0 1;", 1, 3);
         Check.dueFault("set{ 0 1;", 1, 3);
