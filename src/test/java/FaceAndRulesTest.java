@@ -21,8 +21,15 @@ public final class FaceAndRulesTest {
             + "within(int,int,int,boolean)int far(int,int,int)int where(int)int count(int)int pair(int,int,int)int cheapest(int)int "
             + "merged(int)int would(int,int,boolean)int halves(int)int tell(int)int octet(int)int image(int)boolean again(int)boolean";
 
+    /** What a static field may be, by rule 5. */
+    private static final Set<Class<?>> CONSTANTS = Set.of(int.class, long.class, boolean.class, char.class, String.class,
+            int[].class, long[].class, char[].class, byte[].class);
+    /** The functions of the library that the class calls; another one is looked up in rule 4 before it stands here. */
+    private static final Set<String> LIBRARY = Set.of("System.arraycopy", "Integer.compare", "Math.max", "Math.min");
+
     public static void main(String[] args) throws IOException {
         face();
+        faceOfTheDocument();
         membersOfClassesInside();
         source(Files.readString(Path.of("src/main/java/MeltingHeaps.java")));
         Check.end("FaceAndRulesTest");
@@ -55,6 +62,22 @@ public final class FaceAndRulesTest {
         Check.due("constructor", Modifier.isPublic(makers[0].getModifiers()) && makers[0].getParameterCount() == 0, true);
     }
 
+    /** What the class is compared with is what the document writes. */
+    private static void faceOfTheDocument() {
+        if (Sentences.face().isEmpty()) {
+            return;
+        }
+        Set<String> written = new TreeSet<>();
+        Matcher m = Pattern.compile("public (int|boolean) ([a-z]+)\\(([^)]*)\\);").matcher(Sentences.face());
+        while (m.find()) {
+            written.add(m.group(2) + "(" + m.group(3).replaceAll(" [a-z]+(?=,|$)", "").replace(" ", "") + ")" + m.group(1));
+        }
+        Check.due("methods of the document", String.join(" ", written), String.join(" ", new TreeSet<>(Arrays.asList(FACE.split(" ")))));
+        String rest = Sentences.face().replaceAll("public (int|boolean) [a-z]+\\([^)]*\\);", "").replaceAll("\\s+", " ").trim();
+        Check.due("the rest of the face", rest,
+                "public final class MeltingHeaps { public static final int NONE = -1; public MeltingHeaps(); }");
+    }
+
     private static void membersOfClassesInside() {
         Set<String> names = new HashSet<>();
         for (String signature : FACE.split(" ")) {
@@ -77,6 +100,10 @@ public final class FaceAndRulesTest {
     private static void fieldsAndParameters(Class<?> c) {
         long fields = Arrays.stream(c.getDeclaredFields()).filter(f -> !Modifier.isStatic(f.getModifiers())).count();
         Check.due(c + " has at most 20 fields", fields <= 20, true);
+        for (Field f : c.getDeclaredFields()) {
+            boolean constant = Modifier.isFinal(f.getModifiers()) && CONSTANTS.contains(f.getType());
+            Check.due(c + " " + f.getName() + " is a constant if it is static", !Modifier.isStatic(f.getModifiers()) || constant, true);
+        }
         for (Method m : c.getDeclaredMethods()) {
             Check.due(c + " " + m.getName() + " has at most 7 parameters", m.getParameterCount() <= 7, true);
         }
@@ -92,9 +119,9 @@ public final class FaceAndRulesTest {
         Check.due("lambdas", code.contains("->"), false);
         Check.due("method references", code.contains("::"), false);
         Check.due("signs beyond 127", source.chars().allMatch(c -> c < 128), true);
-        Matcher m = Pattern.compile("\\bSystem\\.(\\w+)").matcher(code);
+        Matcher m = Pattern.compile("\\b(System|Math|Integer|Long|Arrays|List|String|java)\\.\\w+").matcher(code);
         while (m.find()) {
-            Check.due("System." + m.group(1), m.group(1), "arraycopy");
+            Check.due(m.group() + " is of the library that rule 4 lists", LIBRARY.contains(m.group()), true);
         }
         lengths(code);
     }

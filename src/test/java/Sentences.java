@@ -8,12 +8,14 @@ import java.util.regex.Matcher;
 import java.util.regex.Pattern;
 
 /**
- * The document's sentences, by section ("Terms 1" .. "Terms 3", "Promise 1" .. "Promise 31"). A test names the one that
- * it holds, in the document's own words; at its end it is asked whether any words of its sections were named by none.
+ * The document's sentences, by section ("What it is", "Terms 1" .. "Terms 3", "Behind the Terms", "Promise 1" ..
+ * "Promise 31"). A test names the one that it holds, in the document's own words; at its end it is asked whether any words
+ * of its sections were named by none.
  */
 final class Sentences {
     private static final Map<String, String> SECTIONS = new LinkedHashMap<>();
     private static final Map<String, boolean[]> HELD = new LinkedHashMap<>();
+    private static String face = "";
 
     static {
         Path document = Path.of(System.getProperty("shared", "../shared"), "DOC.md");
@@ -39,6 +41,18 @@ final class Sentences {
         while (terms.find()) {
             add("Terms " + terms.group(1), terms.group(2).replaceAll("```(text)?", ""));
         }
+        Matcher around = Pattern.compile("(?s)## What it is\n(.*?)\n## .*\n(The constants: .*?)\n## Promise 1:").matcher(document);
+        if (around.find()) {
+            add("What it is", around.group(1));
+            add("Behind the Terms", around.group(2));
+        }
+        Matcher interfaceOfIt = Pattern.compile("(?s)## The public face\n\\s*```java\n(.*?)```").matcher(document);
+        face = interfaceOfIt.find() ? interfaceOfIt.group(1) : "";
+    }
+
+    /** The public face as the document writes it; empty if there is no document. */
+    static String face() {
+        return face;
     }
 
     private static void add(String section, String words) {
